@@ -12,16 +12,24 @@ public final class ReachFlow {
     private static final int UNMARKED = 0, CASE = 1, DEFAULT = 2;
     private static final int NOT_REACHED = 1, NO_TARGET = 2, CAUGHT_BEFORE = 3, CAUGHT_NEVER = 4,
             NAME_TWICE = 5, WRONG_RETURN = 6, LACKS_VALUE = 7, NEVER_DONE = 8, UNDECIDED = 9;
+    // As bits: a KIND that is BELOW one of these is UNCHECKED.
+    private static final int UNCHECKED = 1 << 2 | 1 << 3;
     private static final int MOST_NODES = 60, MOST_KINDS = 12, MOST_NAMES = 6;
     // Only a jump or a LABEL can have two FAULTS, and none has three.
     private static final int MOST_FAULTS = 2 * MOST_NODES;
 
-    private final Kinds kinds = new Kinds();
-    private final Tree tree = new Tree();
-    private final Row row = new Row();
-    private final Look look = new Look(tree, kinds);
+    private final Kinds kinds;
+    private final Tree tree;
+    private final Row row;
+    private final Look look;
 
     public ReachFlow() {
+        Kinds newKinds = new Kinds();
+        Tree newTree = new Tree();
+        kinds = newKinds;
+        tree = newTree;
+        row = new Row();
+        look = new Look(newTree, newKinds);
     }
 
     public int clear() {
@@ -379,7 +387,7 @@ public final class ReachFlow {
         }
 
         boolean needsNoThrower(int kind) {
-            return kind <= 1 || isIn(below[2] | below[3], kind);
+            return kind <= 1 || (over[kind] & UNCHECKED) != 0;
         }
     }
 
@@ -475,7 +483,7 @@ public final class ReachFlow {
             return kids[first[whole] + i];
         }
 
-        /** The part that stands right before one, in what both are part of; NONE before the first. */
+        /** The part right before one, in what both are part of; NONE before the first. */
         int kidBefore(int n) {
             return spot[n] == first[parent[n]] ? NONE : kids[spot[n] - 1];
         }
@@ -563,17 +571,17 @@ public final class ReachFlow {
         /** Whether a CATCH is come to, where CATCHES before it take the KINDS told as bits. */
         abstract boolean opensCatch(int kind, int fromBody, int caught);
 
-        /** Whether the ENDING of a TRY is come to, whose ends before it are those of the NODE now. */
+        /** Whether the ENDING of a TRY is come to, which till now ends as BODY and CATCHES do. */
         abstract boolean opensEnding(int n);
 
-        void forget() {
+        final void forget() {
             open = 0;
             met = 0;
             normal = 0;
             returning = 0;
         }
 
-        void flow(int[] order, int length, int[] targets) {
+        final void flow(int[] order, int length, int[] targets) {
             forget();
             for (int i = length - 1; i >= 0; i--) {
                 settle(order[i], targets[order[i]]);
@@ -635,7 +643,7 @@ public final class ReachFlow {
                 }
                 before = opens && endsNormally(part);
             }
-            if (goesPast(n) || isIn(breaks[n], n)) {
+            if (goesPast(n, before) || isIn(breaks[n], n)) {
                 normal |= 1L << n;
             }
             breaks[n] &= ~(1L << n);
@@ -658,8 +666,11 @@ public final class ReachFlow {
             }
         }
 
-        /** Whether a NODE with parts, no TRY, can end NORMALLY without a BREAK to it. */
-        private boolean goesPast(int n) {
+        /**
+         * Whether a NODE with parts, no TRY, can end NORMALLY without a BREAK to it; its last part
+         * goes on, if there is none.
+         */
+        private boolean goesPast(int n, boolean lastGoesOn) {
             switch (tree.sort[n]) {
                 case IF:
                     return tree.count[n] == 1 && testOfIf(n) != TRUE || somePartGoesOn(n);
@@ -671,9 +682,9 @@ public final class ReachFlow {
                 case EACH:
                     return true;
                 case BLOCK:
-                    return lastPartGoesOn(n);
+                    return lastGoesOn;
                 case SWITCH:
-                    return !tree.hasDefault(n) || tree.tail[n] != UNMARKED || lastPartGoesOn(n);
+                    return !tree.hasDefault(n) || tree.tail[n] != UNMARKED || lastGoesOn;
                 case RULES:
                     return !tree.hasDefault(n) || somePartGoesOn(n);
                 default:
@@ -683,11 +694,6 @@ public final class ReachFlow {
 
         private boolean somePartGoesOn(int n) {
             return (tree.partBits[n] & open & normal) != 0;
-        }
-
-        private boolean lastPartGoesOn(int n) {
-            int parts = tree.count[n];
-            return parts == 0 || isIn(open & normal, tree.kid(n, parts - 1));
         }
 
         private void settleTry(int n) {
@@ -727,19 +733,19 @@ public final class ReachFlow {
             thrown[n] |= thrown[part];
         }
 
-        boolean meets(int n) {
+        final boolean meets(int n) {
             return isIn(met, n);
         }
 
-        boolean endsNormally(int n) {
+        final boolean endsNormally(int n) {
             return isIn(normal, n);
         }
 
-        boolean endsSomehow(int n) {
+        final boolean endsSomehow(int n) {
             return isIn(normal | returning, n) || (breaks[n] | continues[n] | thrown[n]) != 0;
         }
 
-        boolean endsBy(int n, int how, int which) {
+        final boolean endsBy(int n, int how, int which) {
             switch (how) {
                 case 0:
                     return isIn(normal, n);
@@ -761,24 +767,20 @@ public final class ReachFlow {
             super(tree, kinds);
         }
 
-        @Override
         int thrownAs(int kind) {
             return 1 << kind;
         }
 
-        @Override
         int testOfIf(int n) {
             return OPEN;
         }
 
-        @Override
         boolean opensCatch(int kind, int fromBody, int caught) {
             int related = kinds.below[kind] | kinds.over[kind];
             return !isIn(caught, kind)
                     && (kinds.needsNoThrower(kind) || (fromBody & related) != 0);
         }
 
-        @Override
         boolean opensEnding(int n) {
             return true;
         }
@@ -790,22 +792,18 @@ public final class ReachFlow {
             super(tree, kinds);
         }
 
-        @Override
         int thrownAs(int kind) {
             return kinds.below[kind];
         }
 
-        @Override
         int testOfIf(int n) {
             return tree.value[n];
         }
 
-        @Override
         boolean opensCatch(int kind, int fromBody, int caught) {
             return (fromBody & ~caught & kinds.below[kind]) != 0;
         }
 
-        @Override
         boolean opensEnding(int n) {
             return endsSomehow(n);
         }
@@ -945,7 +943,7 @@ public final class ReachFlow {
             }
         }
 
-        /** The FAULTS that a NODE has by where it stands; a CATCH, a BLOCK, can have no other ones. */
+        /** The FAULTS by where a NODE stands; a CATCH is a BLOCK and can have no others. */
         private void listPlaceFault(int n) {
             boolean lost = !rules.meets(n) && rules.meets(tree.parent[n]);
             if (!tree.isCatch(n)) {

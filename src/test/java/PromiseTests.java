@@ -158,7 +158,55 @@ public final class PromiseTests {
         x.check(t);
         due("2 kind 4 stands below 2", x.ends(t, 4, 4), 1);
         due("2 and not as before", x.clear(), 3);
-        due("2 no faults", x.fault(0, 0), BAD);
+        clearOfLooks();
+        clearOfFullTree();
+    }
+
+    private static void clearOfLooks() {
+        ReachFlow x = new ReachFlow();
+        x.exception(1);
+        x.exception(4);
+        int lost = leave(x);
+        int never = x.node(IF, 0, empty(x), NONE);
+        int whole = block(x, never, loop(x, WHILE, 0, lost));
+        due("2 a FAULT", x.check(whole), 1);
+        due("2 a NOTE", x.notes(), 1);
+        x.clear();
+        due("2 no FAULTS", x.fault(0, 0), BAD);
+        due("2 no NOTES", x.notes(), 0);
+        due("2 nor the first", x.note(0), BAD);
+        x.exception(0);
+        x.exception(0);
+        int t = raise(x, 4);
+        x.check(t);
+        due("2 kind 5 is not below 4 as it was", x.ends(t, 4, 5), 0);
+    }
+
+    private static void clearOfFullTree() {
+        ReachFlow x = new ReachFlow();
+        for (int turn = 0; turn < 2; turn++) {
+            int s = marked(x, SWITCH, 0, give(x, 0), 1 + turn % 2);
+            for (int i = 2; i < 60; i++) {
+                s = x.label(0, s);
+            }
+            due("2 all are parts of one", s, 59);
+            x.check(1);
+            due("2 SWITCH with and without a DEFAULT", x.completes(1), turn == 0);
+            due("2 sixty", x.clear(), 60);
+        }
+        int s = marked(x, SWITCH, 0, give(x, 0), 1);
+        x.check(s);
+        due("2 no DEFAULT as there was", x.completes(s), true);
+        x.clear();
+        int old = empty(x);
+        empty(x);
+        empty(x);
+        due("2 an old BLOCK", block(x, old), 3);
+        x.clear();
+        int inner = block(x, empty(x), give(x, 0));
+        due("2 a new DO", loop(x, DO, 2, inner), 3);
+        x.check(3);
+        due("2 parts of old ones are none", x.completes(3), false);
     }
 
     private static void exception() {
@@ -596,7 +644,10 @@ public final class PromiseTests {
         due("14 not in it", x.ends(after, 0, 0), 0);
         due("14 in it", x.reached(stop), true);
         due("14 other target", x.target(stop), NONE);
-        due("14 not in it", x.check(after) + x.target(stop), NONE);
+        x.check(inner);
+        due("14 found again", x.target(stop), inner);
+        x.check(after);
+        due("14 not in it", x.target(stop), NONE);
         laterKinds();
     }
 
@@ -916,6 +967,10 @@ public final class PromiseTests {
         r = marked(x, RULES, 0, block(x, leave(x)), 2);
         x.check(r);
         due("19 RULES by a BREAK", x.completes(r), true);
+        int first = marked(x, SWITCH, 0, give(x, 0), 2);
+        int second = marked(x, RULES, 0, raise(x, 0), 2);
+        x.check(x.node(IF, 2, first, second));
+        due("19 two DEFAULTS in two rows", x.completes(first) || x.completes(second), false);
         r = marked(x, RULES, 0, block(x, again(x)), 2);
         int each = loop(x, EACH, 0, r);
         x.check(each);
@@ -1049,6 +1104,24 @@ public final class PromiseTests {
         int two = x.label(0, x.label(1, loop(x, DO, 2, on)));
         x.check(two);
         due("21 a LABEL between", x.target(on), NONE);
+        deepTargets();
+    }
+
+    private static void deepTargets() {
+        for (int sort = 0; sort < 2; sort++) {
+            ReachFlow x = new ReachFlow();
+            int jump = x.jump(0, sort == 0 ? NONE : 5);
+            int whole = jump;
+            for (int i = 1; i < 59; i++) {
+                whole = x.node(IF, 2, whole, NONE);
+            }
+            whole = sort == 0 ? loop(x, WHILE, 1, whole) : x.label(5, whole);
+            due("21 the deepest tree", whole, 59);
+            due("21 no FAULT in it", x.check(whole), 0);
+            due("21 TARGET", x.target(jump), whole);
+            due("21 BREAK goes all the way", x.ends(x.part(whole, 0), 2, whole), 1);
+            due("21 and ends it", x.completes(whole), true);
+        }
     }
 
     // ---- 22, 23: WALKS
@@ -1064,6 +1137,11 @@ public final class PromiseTests {
         x.check(whole);
         due("22 a jump without a TARGET", x.walked(stray), true);
         due("22 past it", x.walked(after), true);
+        for (int kind = 0; kind < 2; kind++) {
+            int ending = block(x);
+            x.check(attempt(x, block(x, x.jump(kind, NONE)), ending));
+            due("22 an ENDING behind a jump without a TARGET", x.walked(ending), false);
+        }
         int a = empty(x);
         int b = empty(x);
         x.check(x.node(IF, 0, a, b));
@@ -1160,6 +1238,14 @@ public final class PromiseTests {
         x.check(x.label(0, outer));
         due("23 CONTINUE through a LOOP", x.ends(inner, 3, outer), 1);
         due("23 to the outer one", x.ends(outer, 3, outer), 0);
+        int near = again(x);
+        int far = x.jump(1, 0);
+        int mixed = x.node(IF, 2, far, near);
+        inner = loop(x, WHILE, 2, mixed);
+        outer = loop(x, WHILE, 2, inner);
+        x.check(x.label(0, outer));
+        due("23 CONTINUES to both", x.ends(mixed, 3, inner) + x.ends(mixed, 3, outer), 2);
+        due("23 one of them goes on", x.ends(inner, 3, outer), 1);
     }
 
     private static void endsOfRows() {
@@ -1202,10 +1288,25 @@ public final class PromiseTests {
         x.check(v);
         due("23 an endless BODY", x.ends(v, 1, 0), 0);
         due("23 no walk to its ENDING", x.ends(x.part(v, 1), 1, 0), 0);
+        int lost = block(x, again(x), give(x, 1));
+        int each = loop(x, EACH, 0, attempt(x, lost, block(x, give(x, 1))));
+        x.check(each);
+        due("23 a CONTINUE that the ENDING takes", x.ends(x.part(each, 0), 3, each), 0);
+        due("23 its BODY'S", x.ends(lost, 3, each), 1);
+        x.clear();
         int w = attempt(x, block(x, raise(x, 2)), block(x), block(x, raise(x, 3)), 1);
         x.check(w);
         due("23 a CATCH throws", x.ends(w, 4, 3), 1);
         due("23 what was caught is gone", x.ends(w, 4, 2), 0);
+        w = attempt(x, block(x, act(x, 2), act(x, 3)), NONE, block(x), 2, block(x), 3);
+        x.check(w);
+        due("23 both CATCHES take", x.ends(w, 4, 2) + x.ends(w, 4, 3), 0);
+        due("23 both CATCHES take, by the rules", x.can(w, 2) + x.can(w, 3), 0);
+        int both = x.node(IF, 2, give(x, 0), block(x, give(x, 1)));
+        x.check(both);
+        for (int n = x.part(both, 0); n <= both; n++) {
+            due("23 RETURNS side by side", x.ends(n, 1, 0), 1);
+        }
     }
 
     // ---- 24
@@ -1225,6 +1326,7 @@ public final class PromiseTests {
         due("24 it is looked at", x.fault(0, 1), lost);
         int stray = leave(x);
         due("24 another FAULT", x.member(stray, 2), 2);
+        due("24 a RETURN alone", x.member(give(x, 1), 0), 6);
         // the BLOCK'S parts; then the answers for result 0, 1, 2, 3
         int[][] dues = {{0, 7, 0, 0}, {0, 6, 6, 0}, {6, 0, 6, 0}, {6, 6, 6, 9}, {6, 7, 6, 9}, {0, 6, 6, 0}, {0, 0, 8, 0},
             {6, 0, 6, 0}};
