@@ -1327,6 +1327,8 @@ public final class PromiseTests {
         int stray = leave(x);
         due("24 another FAULT", x.member(stray, 2), 2);
         due("24 a RETURN alone", x.member(give(x, 1), 0), 6);
+        x.check(block(x, give(x, 1)));
+        due("24 RETURNS of another ROOT do not count", x.member(a, 0), 0);
         // the BLOCK'S parts; then the answers for result 0, 1, 2, 3
         int[][] dues = {{0, 7, 0, 0}, {0, 6, 6, 0}, {6, 0, 6, 0}, {6, 6, 6, 9}, {6, 7, 6, 9}, {0, 6, 6, 0}, {0, 0, 8, 0},
             {6, 0, 6, 0}};
