@@ -65,13 +65,14 @@ public final class FaceTests {
         due("one constructor", made.length == 1 && made[0].getParameterCount() == 0 && Modifier.isPublic(made[0].getModifiers()));
         due("public and final", ReachFlow.class.getModifiers() == (Modifier.PUBLIC | Modifier.FINAL));
         Class<?>[] inside = ReachFlow.class.getDeclaredClasses();
-        due("twelve classes at most", inside.length < 12);
+        due("twelve classes at most", inside.length < 13);
         for (Class<?> c : inside) {
             due("static " + c, Modifier.isStatic(c.getModifiers()) && !Modifier.isPublic(c.getModifiers()));
             int fields = 0;
             for (Field f : c.getDeclaredFields()) {
-                due("no static state " + f, !Modifier.isStatic(f.getModifiers()) || Modifier.isFinal(f.getModifiers()));
-                fields++;
+                boolean isConstant = Modifier.isStatic(f.getModifiers());
+                due("no static state " + f, !isConstant || Modifier.isFinal(f.getModifiers()));
+                fields += isConstant ? 0 : 1;
             }
             due("twenty fields at most in " + c, fields <= 20);
         }

@@ -6,7 +6,8 @@ import java.util.Set;
 
 /**
  * Trees made at random (from told seeds, so always the same ones), compared with a model that says
- * the document's rules word by word as one fixed point, and with walks made step by step.
+ * the document's rules word by word as one fixed point, and with walks made step by step. No object is used for more
+ * than 512 calls.
  */
 public final class ModelTests {
     private static final int NONE = -1;
@@ -246,34 +247,75 @@ public final class ModelTests {
 
     // ---- the same tree in the program
 
-    private static void make(ReachFlow x, Node n) {
+    private static final int MOST_CALLS = 512;
+    // Making a tree takes fewer calls than these.
+    private static final int CALLS_LEFT = 250;
+
+    /** An object with the tree, THE ROOT looked at; when it has been asked enough, another one like it. */
+    private static final class Held {
+        private final Node tree;
+        private ReachFlow x;
+        private int calls;
+
+        Held(Node tree) {
+            this.tree = tree;
+            begin();
+        }
+
+        private void begin() {
+            x = new ReachFlow();
+            calls = 0;
+            makeKinds(this);
+            make(this, tree);
+            if (calls > CALLS_LEFT) {
+                throw new IllegalStateException(calls + " calls for a tree");
+            }
+        }
+
+        /** For a call that builds: the object stays the same. */
+        ReachFlow same() {
+            calls++;
+            return x;
+        }
+
+        /** For a call that asks what was told of THE ROOT. */
+        ReachFlow ask() {
+            if (calls >= MOST_CALLS) {
+                begin();
+                same().check(root.number);
+            }
+            return same();
+        }
+    }
+
+    private static void make(Held x, Node n) {
         for (Node part : n.parts) {
             make(x, part);
         }
         int first = n.parts.isEmpty() ? NONE : n.parts.get(0).number;
         int second = n.parts.size() < 2 ? NONE : n.parts.get(1).number;
-        int want = x.of(0);
+        int want = x.same().of(0);
         if (n.sort <= LOCK) {
             int a = n.sort == EMPTY ? NONE : n.sort <= RETURN ? n.value : first;
-            n.number = x.node(n.sort, n.sort <= RETURN ? 0 : n.value, a, n.sort == IF ? second : NONE);
+            n.number = x.same().node(n.sort, n.sort <= RETURN ? 0 : n.value, a, n.sort == IF ? second : NONE);
         } else if (n.isJump()) {
-            n.number = x.jump(n.sort - BREAK, n.value);
+            n.number = x.same().jump(n.sort - BREAK, n.value);
         } else if (n.sort == LABEL) {
-            n.number = x.label(n.value, first);
+            n.number = x.same().label(n.value, first);
         } else {
             makeRow(x, n);
         }
         due("a NODE of SORT " + n.sort, n.number, want);
     }
 
-    private static void makeRow(ReachFlow x, Node n) {
-        x.row(n.sort - BLOCK);
+    private static void makeRow(Held x, Node n) {
+        x.same().row(n.sort - BLOCK);
         int parts = n.ending ? n.parts.size() - 1 : n.parts.size();
         for (int i = 0; i < parts; i++) {
             Node part = n.parts.get(i);
-            due("put", x.put(part.number, n.sort == BLOCK ? 0 : part.mark), i + 1);
+            due("put", x.same().put(part.number, n.sort == BLOCK ? 0 : part.mark), i + 1);
         }
-        n.number = x.end(n.sort == TRY ? n.ending ? n.ending().number : NONE : n.endMark);
+        n.number = x.same().end(n.sort == TRY ? n.ending ? n.ending().number : NONE : n.endMark);
     }
 
     private static void inOrder(Node n, List<Node> order) {
@@ -702,28 +744,28 @@ public final class ModelTests {
 
     // ---- comparing
 
-    private static void compareTold(ReachFlow x, Node n, String run) {
-        due(run + "told 0", x.told(n.number, 0), n.sort);
-        due(run + "told 1", x.told(n.number, 1), n.value);
-        due(run + "told 2", x.told(n.number, 2), n.parts.size());
-        due(run + "told 3", x.told(n.number, 3), n.up == null ? NONE : n.up.number);
-        due(run + "told 4", x.told(n.number, 4), n.mark);
+    private static void compareTold(Held x, Node n, String run) {
+        due(run + "told 0", x.ask().told(n.number, 0), n.sort);
+        due(run + "told 1", x.ask().told(n.number, 1), n.value);
+        due(run + "told 2", x.ask().told(n.number, 2), n.parts.size());
+        due(run + "told 3", x.ask().told(n.number, 3), n.up == null ? NONE : n.up.number);
+        due(run + "told 4", x.ask().told(n.number, 4), n.mark);
         for (int i = 0; i < n.parts.size(); i++) {
-            due(run + "part", x.part(n.number, i), n.parts.get(i).number);
+            due(run + "part", x.ask().part(n.number, i), n.parts.get(i).number);
         }
     }
 
-    private static void compareRules(ReachFlow x, List<Node> all, List<Node> order, String run) {
+    private static void compareRules(Held x, List<Node> all, List<Node> order, String run) {
         for (Node n : all) {
             boolean in = order.contains(n);
             String at = run + "node " + n.number + " ";
-            due(at + "reached", x.reached(n.number), in && n.reached);
-            due(at + "completes", x.completes(n.number), in && n.completes);
+            due(at + "reached", x.ask().reached(n.number), in && n.reached);
+            due(at + "completes", x.ask().completes(n.number), in && n.completes);
             for (int k = 0; k < above.length; k++) {
-                due(at + "can " + k, x.can(n.number, k), in && n.throwing.contains(k) ? 1 : 0);
+                due(at + "can " + k, x.ask().can(n.number, k), in && n.throwing.contains(k) ? 1 : 0);
             }
             Node goal = in && n.isJump() ? target(n) : null;
-            due(at + "target", x.target(n.number), goal == null ? NONE : goal.number);
+            due(at + "target", x.ask().target(n.number), goal == null ? NONE : goal.number);
         }
     }
 
@@ -752,14 +794,14 @@ public final class ModelTests {
         }
     }
 
-    private static void compareFaults(ReachFlow x, List<Node> order, String run) {
+    private static void compareFaults(Held x, List<Node> order, String run) {
         List<int[]> found = faults(order);
-        due(run + "check", x.check(root.number), found.size());
+        due(run + "check", x.ask().check(root.number), found.size());
         for (int i = 0; i < found.size(); i++) {
-            due(run + "fault " + i, x.fault(i, 0), found.get(i)[0]);
-            due(run + "fault's node " + i, x.fault(i, 1), found.get(i)[1]);
+            due(run + "fault " + i, x.ask().fault(i, 0), found.get(i)[0]);
+            due(run + "fault's node " + i, x.ask().fault(i, 1), found.get(i)[1]);
         }
-        due(run + "no more faults", x.fault(found.size(), 0), ReachFlow.BAD);
+        due(run + "no more faults", x.ask().fault(found.size(), 0), ReachFlow.BAD);
         boolean valued = false;
         boolean plain = false;
         for (Node n : order) {
@@ -770,15 +812,15 @@ public final class ModelTests {
         int[] dues = {valued ? 6 : 0, plain ? 6 : done ? 7 : 0, valued || plain ? 6 : done ? 0 : 8,
             valued && plain || valued && done ? 9 : 0};
         for (int result = 0; result < 4; result++) {
-            due(run + "member " + result, x.member(root.number, result), found.isEmpty() ? dues[result] : found.get(0)[0]);
+            due(run + "member " + result, x.ask().member(root.number, result), found.isEmpty() ? dues[result] : found.get(0)[0]);
         }
     }
 
-    private static void compareWalks(ReachFlow x, List<Node> order, boolean all, String run) {
+    private static void compareWalks(Held x, List<Node> order, boolean all, String run) {
         for (Node n : order) {
             String at = run + "node " + n.number + " ";
             if (all || come.contains(n)) {
-                due(at + "walked", x.walked(n.number), come.contains(n));
+                due(at + "walked", x.ask().walked(n.number), come.contains(n));
             }
             compareEnd(x, n, 0, 0, all, at);
             compareEnd(x, n, 1, 0, all, at);
@@ -792,25 +834,25 @@ public final class ModelTests {
         }
     }
 
-    private static void compareEnd(ReachFlow x, Node n, int how, int which, boolean all, String at) {
+    private static void compareEnd(Held x, Node n, int how, int which, boolean all, String at) {
         boolean was = seen.contains(n.number + " " + how + " " + which);
         if (all || was) {
-            due(at + "ends " + how + " " + which, x.ends(n.number, how, which), was ? 1 : 0);
+            due(at + "ends " + how + " " + which, x.ask().ends(n.number, how, which), was ? 1 : 0);
         }
     }
 
-    private static void compareNotes(ReachFlow x, List<Node> order, String run) {
+    private static void compareNotes(Held x, List<Node> order, String run) {
         int count = 0;
         for (Node n : order) {
-            if (n != root && n.reached && !x.walked(n.number) && x.walked(n.up.number)) {
-                due(run + "note " + count, x.note(count), n.number);
+            if (n != root && n.reached && !x.ask().walked(n.number) && x.ask().walked(n.up.number)) {
+                due(run + "note " + count, x.ask().note(count), n.number);
                 count++;
             }
         }
-        due(run + "notes", x.notes(), count);
+        due(run + "notes", x.ask().notes(), count);
     }
 
-    private static void makeKinds(ReachFlow x) {
+    private static void chooseKinds() {
         above = new int[4 + upTo(4)];
         above[0] = NONE;
         above[1] = 0;
@@ -818,15 +860,21 @@ public final class ModelTests {
         above[3] = 0;
         for (int k = 4; k < above.length; k++) {
             above[k] = upTo(3) > 0 ? 1 + upTo(k - 1) : upTo(k);
-            due("exception", x.exception(above[k]), k);
         }
     }
 
-    private static void compare(ReachFlow x, long seed, int most) {
+    private static void makeKinds(Held x) {
+        for (int k = 4; k < above.length; k++) {
+            due("exception", x.same().exception(above[k]), k);
+        }
+    }
+
+    private static void compare(long seed, int most) {
         random = new Random(seed);
-        makeKinds(x);
+        chooseKinds();
         Node tree = treeOf(most);
-        make(x, tree);
+        root = tree;
+        Held x = new Held(tree);
         List<Node> all = new ArrayList<>();
         inOrder(tree, all);
         for (Node n : all) {
@@ -836,7 +884,7 @@ public final class ModelTests {
         compareAt(x, all.get(upTo(all.size())), all, seed);
     }
 
-    private static void compareAt(ReachFlow x, Node newRoot, List<Node> all, long seed) {
+    private static void compareAt(Held x, Node newRoot, List<Node> all, long seed) {
         root = newRoot;
         String run = "seed " + seed + ", root " + root.number + ": ";
         List<Node> order = new ArrayList<>();
@@ -856,7 +904,7 @@ public final class ModelTests {
     public static void main(String[] args) {
         int trees = args.length > 0 ? Integer.parseInt(args[0]) : 4000;
         for (int i = 0; i < trees; i++) {
-            compare(new ReachFlow(), i, i % 4 == 0 ? 56 : 4 + i % 11);
+            compare(i, i % 4 == 0 ? 56 : 4 + i % 11);
         }
         System.out.println(trees + " trees; " + whole + " ROOTS with all their walks");
         System.out.println(wrong == 0 ? "all answers are as due" : wrong + " answers are not as due");
