@@ -2,7 +2,9 @@ import java.io.IOException;
 import java.nio.file.Files;
 import java.nio.file.Path;
 import java.util.ArrayList;
+import java.util.HashSet;
 import java.util.List;
+import java.util.Set;
 import java.util.function.IntSupplier;
 import java.util.function.IntUnaryOperator;
 import java.util.function.Supplier;
@@ -23,6 +25,7 @@ public final class BoundaryTests {
     private static String document = "";
     private static String now = "";
     private static int sentences = 0;
+    private static final Set<String> places = new HashSet<>();
     private static int wrong = 0;
     private static ReachFlow x = new ReachFlow();
 
@@ -30,12 +33,17 @@ public final class BoundaryTests {
 
     private static void sentence(String place, String words, Runnable test) {
         sentences++;
+        places.add(place);
         now = place + ", '" + words + "': ";
         if (!document.isEmpty() && !placeOf(place).contains(words)) {
             say("these words do not stand there");
         }
         start();
-        test.run();
+        try {
+            test.run();
+        } catch (RuntimeException | StackOverflowError thrown) {
+            say("threw " + thrown);
+        }
     }
 
     private static String placeOf(String place) {
@@ -400,6 +408,26 @@ public final class BoundaryTests {
         }
     }
 
+    // ======== What it is, the public face
+
+    private static void objects() {
+        sentence("Terms", "An object is used for at most 512 calls after it has been made", () -> {
+            for (int call = 1; call < 60; call++) {
+                due("call " + call, empty(), call - 1);
+            }
+            for (int call = 60; call < 512; call++) {
+                due("call " + call, x.check(call % 59), 0);
+            }
+            due("call 512", x.label(5, 58), 59);
+        });
+        sentence("Terms", "public static final int NONE = -1, BAD = -2, FULL = -3, NO = -4;", () -> {
+            due("NONE", ReachFlow.NONE, -1);
+            due("BAD", ReachFlow.BAD, -2);
+            due("FULL", ReachFlow.FULL, -3);
+            due("NO", ReachFlow.NO, -4);
+        });
+    }
+
     // ======== Terms 1: NODES, SORTS, KINDS, THE TARGET
 
     private static void nodesAndParts() {
@@ -543,6 +571,33 @@ public final class BoundaryTests {
             throwing(1, "0");
             endedAsRoot(act(3), "N K3");
             throwing(2, "3");
+        });
+        sentence("Terms", "2 THROW of a KIND.", () -> {
+            refused("node(2, 0, -1, -1)", BAD, () -> { }, () -> raise(NONE));
+            start();
+            endedAsRoot(raise(0), "K0 K1 K2 K3");
+            endedAsRoot(raise(3), "K3");
+        });
+        sentence("Terms", "3 RETURN with a value (1) or without (0).", () -> {
+            due("with one", x.member(give(1), 1), 0);
+            due("without one", x.member(give(0), 0), 0);
+            refused("node(3, 0, -1, -1)", BAD, () -> { }, () -> give(NONE));
+            refused("node(3, 0, 2, -1)", BAD, () -> { }, () -> give(2));
+        });
+        sentence("Terms", "4 IF: a TEST, a part, a second one or none.", () -> {
+            due("one part", either(2, empty(), NONE), 1);
+            due("two parts", either(2, empty(), empty()), 4);
+            refused("no part", BAD, BoundaryTests::empty, () -> either(2, NONE, NONE));
+            refused("a second one alone", BAD, BoundaryTests::empty, () -> either(2, NONE, 0));
+            refused("the same one twice", BAD, BoundaryTests::empty, () -> either(2, 0, 0));
+        });
+        sentence("Terms", "5 WHILE, 6 DO, 7 FOR: a TEST, a part. 8 EACH: a part.", () -> {
+            for (int sort = WHILE; sort <= EACH; sort++) {
+                int of = sort;
+                answeredAt("node(" + sort + ", 0, ?, -1)", BoundaryTests::empty, a -> loop(of, 0, a), 1, 0);
+                refused("SORT " + sort + " without a part", BAD, BoundaryTests::empty, () -> loop(of, 0, NONE));
+                refused("SORT " + sort + " of two parts", BAD, BoundaryTests::fourBlocks, () -> x.node(of, 0, 0, 1));
+            }
         });
         sentence("Terms", "A TEST is 0 (known to be false), 1 (known to be true), 2 OPEN", () -> {
             for (int sort = IF; sort <= DO; sort++) {
@@ -1275,6 +1330,16 @@ public final class BoundaryTests {
     // ======== Terms 3: WALKS
 
     private static void walksOfSimple() {
+        sentence("Terms", "WALKS go through THE ROOT.", () -> {
+            for (int sort = 0; sort <= 16; sort++) {
+                start();
+                int n = ofSort(sort);
+                look(loop(WHILE, 0, n));
+                walked(false, n);
+                look(n);
+                walked(true, n);
+            }
+        });
         sentence("Terms", "EMPTY is ended NORMALLY; ACT NORMALLY, or by any KIND BELOW its own; THROW by any KIND BELOW its own; RETURN"
             + " by RETURN", () -> {
             x.exception(2);
@@ -1731,8 +1796,8 @@ public final class BoundaryTests {
     }
 
     private static void useRows() {
-        int s = marked(SWITCH, 0, give(1), 2);
         int e = empty();
+        int s = marked(SWITCH, 0, give(1), 2);
         look(block(s, e));
         int t = attempt(block(act(0)), block(raise(3)), block(leave()), 2);
         int all = marked(SWITCH, 1, 3, 2, t, 1);
@@ -1749,9 +1814,10 @@ public final class BoundaryTests {
     }
 
     private static void lookAtRows() {
-        marked(SWITCH, 0, give(0), 1);
-        block(act(2), raise(1));
-        look(marked(SWITCH, 0, 1, 2, 4, 1));
+        int rules = marked(RULES, 0);
+        int s = marked(SWITCH, 0, give(0), 1);
+        int b = block(act(2), raise(1));
+        look(marked(SWITCH, 0, rules, 2, s, 0, b, 1));
     }
 
     private static void lookAtLoop() {
@@ -1828,6 +1894,16 @@ public final class BoundaryTests {
                 if (sort != IF) {
                     refusedOutside("node(" + sort + ", 0, " + a + ", ?)", NONE, NONE, BoundaryTests::fourBlocks,
                         b -> x.node(of, 0, a, b));
+                }
+            }
+        });
+        sentence("Promise 4", "BAD;", () -> {
+            for (int sort = 0; sort < 10; sort++) {
+                int of = sort;
+                for (int n : outside(NONE, 11)) {
+                    refused("node(" + sort + ", 0, " + n + ", -1)", BAD, () -> { }, () -> x.node(of, 0, n, NONE));
+                    refused("node(" + sort + ", 0, 0, " + n + ")", BAD, BoundaryTests::block, () -> x.node(of, 0, 0, n));
+                    refused("node(" + sort + ", " + n + ", 0, -1)", BAD, BoundaryTests::block, () -> x.node(of, n, 0, NONE));
                 }
             }
         });
@@ -2765,6 +2841,12 @@ public final class BoundaryTests {
                 }
             }
         });
+        sentence("Promise 24", "0 if all is well;", () -> {
+            int[] roots = {empty(), give(1), block(), either(2, give(0), NONE)};
+            for (int result = 0; result < 4; result++) {
+                due("member() with " + result, x.member(roots[result], result), 0);
+            }
+        });
         sentence("Promise 24", "else the first FAULT; without FAULTS:", () -> {
             x.exception(1);
             int[] c = {block(), block()};
@@ -2855,6 +2937,7 @@ public final class BoundaryTests {
         if (Files.exists(DOCUMENT)) {
             document = Files.readString(DOCUMENT).replaceAll("\\s+", " ");
         }
+        objects();
         nodesAndParts();
         testsAndNames();
         rows();
@@ -2895,6 +2978,8 @@ public final class BoundaryTests {
         promise22();
         promise23();
         promise24();
+        now = "";
+        due("places of the document that have tests", places.size(), 25);
         System.out.println(sentences + " sentences");
         System.out.println(wrong == 0 ? "all answers are as due" : wrong + " answers are not as due");
         if (wrong != 0) {
